@@ -386,7 +386,7 @@ public final class RanOut {
             return 0;
         }
         clock.load(claim);
-        clock.the.add(PAY, book.today);
+        clock.loaded.add(PAY, book.today);
         clock.goThrough(DAYS - 1);
         int with = clock.lastDay();
         return with < 0 ? WITHOUT_END : with - without;
@@ -417,7 +417,7 @@ public final class RanOut {
         for (int claim = 0; claim < book.claims.count; claim++) {
             boolean lives = isAlive(lastDays.lastOf(claim), book.today);
             clock.load(claim);
-            clock.the.putLaw(a, b);
+            clock.loaded.putLaw(a, b);
             clock.goThrough(book.today - 1);
             boolean wouldLive = !clock.hasEnded();
             dead += lives && !wouldLive ? 1 : 0;
@@ -700,7 +700,7 @@ public final class RanOut {
             if (token == '(') {
                 bracketCount++;
             }
-            await(token);
+            holdBack(token);
         }
 
         private void readQuantity(boolean divisor) {
@@ -751,7 +751,7 @@ public final class RanOut {
 
         private void join(int joint, int level) {
             settle(level);
-            await(joint);
+            holdBack(joint);
         }
 
         private void closeBracket() {
@@ -774,7 +774,7 @@ public final class RanOut {
             }
         }
 
-        private void await(int joint) {
+        private void holdBack(int joint) {
             if (waitingCount < waiting.length) {
                 waiting[waitingCount] = joint;
                 waitingCount++;
@@ -1233,7 +1233,7 @@ public final class RanOut {
 
     /** The clock of the claim that is loaded. */
     private static final class Clock {
-        final Case the;
+        final Case loaded;
         private final Book book;
         int ran;
         int term;
@@ -1252,16 +1252,16 @@ public final class RanOut {
 
         Clock(Book book) {
             this.book = book;
-            the = new Case(book);
+            loaded = new Case(book);
         }
 
         void load(int claim) {
-            the.load(claim, book.places.changeCount[book.claims.place[claim]]);
+            loaded.load(claim, book.places.changeCount[book.claims.place[claim]]);
             begin();
         }
 
         void loadWithoutLastChange(int claim) {
-            the.load(claim, book.places.changeCount[book.claims.place[claim]] - 1);
+            loaded.load(claim, book.places.changeCount[book.claims.place[claim]] - 1);
             begin();
         }
 
@@ -1269,7 +1269,7 @@ public final class RanOut {
             ran = 0;
             term = NONE;
             how = NOT_YET;
-            next = the.starts[0];
+            next = loaded.starts[0];
             over = false;
         }
 
@@ -1311,9 +1311,9 @@ public final class RanOut {
         /** Stands on that day as STEPS tell it. */
         void goOnto(int day) {
             goThrough(day - 1);
-            if (day < the.starts[0]) {
+            if (day < loaded.starts[0]) {
                 ranAhead = 0;
-                law = the.lawOn(day);
+                law = loaded.lawOn(day);
                 findTerm(book.places.laws[law], day);
             } else if (over) {
                 how = how == ENDS ? DEAD : how;
@@ -1326,10 +1326,10 @@ public final class RanOut {
         private void goDay(int day) {
             ranAhead = ran;
             askedRan = false;
-            law = the.lawOn(day);
+            law = loaded.lawOn(day);
             Law text = book.places.laws[law];
             findTerm(text, day);
-            int sorts = the.sortsOn(day);
+            int sorts = loaded.sortsOn(day);
             if ((sorts >> SUIT & 1) != 0) {
                 how = IS_KEPT;
                 over = true;
@@ -1359,7 +1359,7 @@ public final class RanOut {
                 Line line = text.lines[i];
                 if (line.kind == TERM && holds(line, day)) {
                     term = line.days;
-                    termStart = the.starts[line.start];
+                    termStart = loaded.starts[line.start];
                 }
             }
         }
@@ -1377,7 +1377,7 @@ public final class RanOut {
         private boolean isLongOver(Law text, int day) {
             for (int i = 0; i < text.lines.length; i++) {
                 Line line = text.lines[i];
-                if (line.kind == LONG && day >= the.starts[line.start] + line.days && holds(line, day)) {
+                if (line.kind == LONG && day >= loaded.starts[line.start] + line.days && holds(line, day)) {
                     return true;
                 }
             }
@@ -1392,7 +1392,7 @@ public final class RanOut {
             if (over || how > STOPPED || how == RUNS && askedRan) {
                 return day;
             }
-            int calm = Math.min(lastOne, the.turnBehind(day, book.places.laws[law]) - 1);
+            int calm = Math.min(lastOne, loaded.turnBehind(day, book.places.laws[law]) - 1);
             if (how == RUNS) {
                 calm = Math.min(calm, day + term - ran - 1);
                 ran += calm - day;
@@ -1434,11 +1434,11 @@ public final class RanOut {
         private int valueOf(int word, int day) {
             switch (word) {
                 case KIND:
-                    return the.kind;
+                    return loaded.kind;
                 case SUM:
-                    return the.sum;
+                    return loaded.sum;
                 case PLACE:
-                    return the.place;
+                    return loaded.place;
                 case YEAR:
                     return day / DAYS_OF_YEAR;
                 default:
@@ -1545,7 +1545,7 @@ public final class RanOut {
 
         private int lastWithout(int claim, int fact) {
             clock.load(claim);
-            clock.the.takeAway(1 << fact);
+            clock.loaded.takeAway(1 << fact);
             clock.goThrough(DAYS - 1);
             return clock.lastDay();
         }
@@ -1554,16 +1554,16 @@ public final class RanOut {
         private void stretch(int claim, int number) {
             int rest = number;
             clock.goBack();
-            clock.the.loadFacts();
+            clock.loaded.loadFacts();
             for (int fact = 0; fact < book.claims.factCount[claim]; fact++) {
                 int doubt = book.claims.factDoubt[claim * FACTS + fact];
                 int ways = Math.max(1, waysOf(doubt));
                 int way = rest % ways;
                 rest /= ways;
                 if (doubt == CONTESTED) {
-                    clock.the.takeAway(way << fact);
+                    clock.loaded.takeAway(way << fact);
                 } else {
-                    clock.the.delay(fact, way);
+                    clock.loaded.delay(fact, way);
                 }
             }
             clock.goThrough(DAYS - 1);
@@ -1622,15 +1622,15 @@ public final class RanOut {
             int acts = book.acts.toldOf(claim);
             long sets = 0;
             clock.load(claim);
-            clock.the.takeAway(away);
+            clock.loaded.takeAway(away);
             clock.goThrough(book.today - 1);
             clock.mark();
             for (int set = 0; set < ACT_SETS; set++) {
                 if ((set & acts) == set) {
                     clock.goBack();
-                    clock.the.loadFacts();
-                    clock.the.takeAway(away);
-                    clock.the.addActs(set);
+                    clock.loaded.loadFacts();
+                    clock.loaded.takeAway(away);
+                    clock.loaded.addActs(set);
                     clock.goThrough(day - 1);
                     sets |= clock.hasEnded() ? 0 : 1L << set;
                 } else {

@@ -65,6 +65,12 @@ public final class LawTextTest {
         faulty("roll;Roll;", 1, 5);
         faulty("termX 5 days from done;", 1, 0);
         faulty("renews ask;", 1, 0);
+        faulty("rollz;", 1, 0);
+        faulty("rollA;", 1, 0);
+        faulty("rollZ;", 1, 0);
+        faulty("roll[;", 1, 4);
+        faulty("roll{;", 1, 4);
+        faulty("term 5: days from done;", 1, 6);
         faulty("term five days from done;", 1, 5);
         faulty("term 5 year from done;", 1, 7);
         faulty("term 5 days from done when year s=1;", 1, 32);

@@ -9,6 +9,7 @@ public final class PlanTest {
         contest();
         contestPairs();
         beside();
+        full();
         Check.leave("PlanTest");
     }
 
@@ -266,5 +267,49 @@ public final class PlanTest {
         for (int[] w : wrong) {
             Check.due("beside that can't be", x.beside(w[0], w[1], w[2]), -1);
         }
+    }
+
+    /** All rows full: sixty claims, twelve facts, six contested, six acts of three claims. */
+    private static void full() {
+        RanOut x = Check.with("term 20 days from done;renew ask;stop child;");
+        for (int c = 0; c < 60; c++) {
+            x.claim(c % 6, c % 10, 100, 0, 0, 0);
+            x.want(c, true);
+        }
+        for (int c = 57; c < 60; c++) {
+            for (int f = 0; f < 12; f++) {
+                Check.due("fact", x.fact(c, f < 10 ? 0 : 4, 10, 10), f);
+            }
+            Check.due("doubt", x.doubt(c, 0, 5), true);
+            Check.due("doubt", x.doubt(c, 1, 5), true);
+            Check.due("contested", x.doubt(c, 10, 6), true);
+            Check.due("contested", x.doubt(c, 11, 6), true);
+        }
+        for (int k = 0; k < 6; k++) {
+            x.act(k, 4, 15 + k, 999, 57, 58, 59);
+        }
+        x.want(56, false);
+        Check.due("all live at 20", x.cheapest(20, 0), 0);
+        Check.due("contested in the last claim", x.contest(20, 2, 0), 0);
+        for (int c = 0; c < 57; c++) {
+            x.want(c, false);
+        }
+        Check.due("the three live at 30", x.cheapest(30, 0), 0);
+        Check.due("by an act without both askings", x.contest(30, 2, 0), 999);
+        Check.due("of the first", x.contest(30, 2, 10), 12 * 57 + 10);
+        Check.due("of the first", x.contest(30, 2, 11), 12 * 57 + 11);
+        Check.due("later by the last act alone", x.cheapest(40, 0), 32);
+        Check.due("its cost", x.cheapest(40, 1), 999);
+        Check.due("three live by it", x.one(40, 1), 3);
+        Check.due("worth", x.worth(40, 9999, 1), 300);
+        Check.due("span: the child is there or a day later, the asking not", x.span(59, 0), 21);
+        Check.due("span: two children on days of their own behind the asking", x.span(59, 1), 32);
+        Check.due("either is enough", x.span(59, 2), 0);
+        Check.due("alive", x.look(3), 60);
+        Check.due("sum", x.look(4), 6000);
+        Check.due("beside", x.beside(1, 0, 0), 0);
+        x.change(5, 5, 7, true);
+        Check.due("the ten of place 5", x.changed(5, 0), 10);
+        Check.due("paid on day 0", x.pay(59), 0);
     }
 }
