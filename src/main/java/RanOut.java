@@ -174,8 +174,8 @@ public final class RanOut {
     }
 
     public int text(int k) {
-        reader.clearFault();
         if (!within(k, LAWS)) {
+            reader.passOver();
             return NONE;
         }
         Law law = reader.readLaw();
@@ -587,7 +587,13 @@ public final class RanOut {
             }
         }
 
-        void clearFault() {
+        /** The tape is used up also by a text that no law can take. */
+        void passOver() {
+            clearFault();
+            length = 0;
+        }
+
+        private void clearFault() {
             faultKind = 0;
             faultPlace = NONE;
         }

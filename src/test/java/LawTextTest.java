@@ -2,6 +2,7 @@
 public final class LawTextTest {
     public static void main(String[] args) {
         tape();
+        noSuchLaw();
         lines();
         faults();
         depths();
@@ -26,6 +27,22 @@ public final class LawTextTest {
         Check.due("the highest byte first", x.feed(0x726f6c6c, 0x3b0a2020, 0x20202020, 0x20202020, 0x20202020), 20);
         Check.due("its text", x.text(0), 1);
         Check.due("empty then", x.end(1), false);
+    }
+
+    private static void noSuchLaw() {
+        int[] noLaws = {-1, 8, Integer.MIN_VALUE, Integer.MAX_VALUE};
+        for (int k : noLaws) {
+            RanOut x = new RanOut();
+            Check.tell(x, 0, "roll");
+            Check.feed(x, "roll;");
+            Check.due("text(" + k + ")", x.text(k), -1);
+            Check.due("no fault of it", x.fault(0), 0);
+            Check.due("nor a place", x.fault(1), -1);
+            Check.due("the tape is empty then too", x.end(1), false);
+            Check.due("what comes is the first again", x.feed(0, 0, 0, 0, 0), 20);
+            Check.due("end(0)", x.end(0), true);
+            Check.due("nothing is left for a law", x.text(0), 0);
+        }
     }
 
     private static void lines() {

@@ -504,11 +504,11 @@ final class Model {
     int text(int k) {
         fault = 0;
         faultPlace = NONE;
+        byte[] bytes = tape;
+        tape = new byte[0];
         if (k < 0 || k > 7) {
             return NONE;
         }
-        byte[] bytes = tape;
-        tape = new byte[0];
         try {
             s.laws.set(k, new Parser(bytes).lines());
         } catch (Fault f) {

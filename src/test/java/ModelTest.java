@@ -173,6 +173,7 @@ public final class ModelTest {
         }
         same("end", real.end(t.length()), model.end(t.length()));
         same("text(" + k + ") of " + text, real.text(k), model.text(k));
+        same("end(1) behind text(" + k + ")", real.end(1), model.end(1));
         same("fault(0) of " + text, real.fault(0), model.fault(0));
         same("fault(1) of " + text, real.fault(1), model.fault(1));
     }
