@@ -19,11 +19,14 @@ public final class ClockEdgesTest {
         notYet();
         ended();
         aheadOfDone();
+        aheadOfDoneBehindAnother();
         spanOrder();
         spanOfAll();
         hangs();
         changedByLast();
         changedEdges();
+        lastOfAllDays();
+        askedAgain();
         Check.leave("ClockEdgesTest");
     }
 
@@ -247,6 +250,20 @@ public final class ClockEdgesTest {
         x = Check.with("long 20 days from done when year=1;");
         x.claim(0, 0, 0, 0, 0, 0);
         Check.due("its B is so later", x.last(0), 365);
+        Check.due("a day ahead it is not", x.step(0, 364, 3), 0);
+        Check.sentence("B is asked on each day: of renew and stop lines too");
+        x = Check.with("term 900 days from done;renew ask when year=1;stop pay when year=1;renew letter when year<2;stop letter when year=2;");
+        x.claim(0, 0, 0, 0, 0, 0);
+        int[] days = {364, 365, 729, 730};
+        int[][] stands = {{1, 1, 3}, {3, 2, 3}, {3, 2, 3}, {1, 1, 2}};
+        for (int sort = 4; sort <= 6; sort++) {
+            for (int i = 0; i < days.length; i++) {
+                x.claim(0, 0, 0, 0, 0, 0);
+                int c = x.look(1) - 1;
+                x.fact(c, sort, days[i], days[i]);
+                Check.due("sort " + sort + " on " + days[i], x.step(c, days[i], 3), stands[i][sort - 4]);
+            }
+        }
         x = Check.with("long 1 days from done;");
         x.claim(0, 0, 0, 2999, 2999, 2999);
         Check.due("a single day", x.last(0), 3000);
@@ -442,6 +459,17 @@ public final class ClockEdgesTest {
         }
     }
 
+    /** What was asked of one claim must not show in another. */
+    private static void aheadOfDoneBehindAnother() {
+        Check.sentence("(ahead of DONE ran 0): also where another claim's days ran");
+        RanOut x = Check.with("term 10 days from done when ran=0;term 90 days from done;");
+        x.claim(0, 0, 0, 0, 0, 0);
+        x.claim(0, 0, 0, 500, 500, 500);
+        Check.due("the first one's TERM", x.step(0, 40, 1), 90);
+        Check.due("the second one's", x.step(1, 40, 1), 10);
+        Check.due("ran", x.step(1, 40, 0), 0);
+    }
+
     private static void spanOrder() {
         Check.sentence("SPAN: the earliest and the latest LAST DAY (none is later than all; KEPT is later than none)");
         RanOut x = Check.with("term 10 days from done when ran<8;renew ask;");
@@ -582,5 +610,69 @@ public final class ClockEdgesTest {
         x.change(4, 9, 7, true);
         Check.due("a PLACE without claims: how many", x.changed(4, 0), 0);
         Check.due("a PLACE without claims: the first", x.changed(4, 1), -1);
+    }
+
+    private static void lastOfAllDays() {
+        Check.sentence("Without an end up to day 4999 it has none: in SPAN, HANGS, CHANGED and PAY NOTHING alike");
+        int[] terms = {1998, 1999, 2000, 2001, 2002};
+        for (int term : terms) {
+            RanOut x = Check.with("term " + term + " days from done;stop pay;stop ask;");
+            x.claim(0, 0, 0, 2998, 2998, 2998);
+            int last = day(2998 + term);
+            int stopped = day(2999 + term);
+            Check.due("last by " + term, x.last(0), last);
+            x.today(2999);
+            Check.due("pay by " + term, x.pay(0), last < 0 ? 0 : stopped < 0 ? 99999 : 1);
+            x.fact(0, 4, 2999, 2999);
+            x.doubt(0, 0, 6);
+            Check.due("last, asked, by " + term, x.last(0), stopped);
+            Check.due("the earliest by " + term, x.span(0, 0), last);
+            Check.due("the latest by " + term, x.span(0, 1), stopped);
+            Check.due("HANGS by " + term, x.span(0, 2), last == stopped ? 0 : 1);
+            Check.tell(x, 1, "term " + term + " days from done;");
+            x.change(0, 2999, 1, true);
+            Check.due("CHANGED by " + term, x.changed(0, 0), last == stopped ? 0 : 1);
+            x.claim(1, 0, 0, 2998, 2998, 2998);
+            x.change(1, 2999, 0, true);
+            Check.due("not by the same LAW, " + term, x.changed(1, 0), 0);
+        }
+    }
+
+    private static int day(int day) {
+        return day > 4999 ? -1 : day;
+    }
+
+    private static void askedAgain() {
+        Check.sentence("what was asked once is asked anew when something else is told");
+        RanOut x = Check.with("term 18 days from done;stop child;roll;");
+        Check.tell(x, 1, "term 21 days from done;stop child;");
+        x.claim(0, 0, 7, 0, 0, 0);
+        x.claim(0, 0, 9, 0, 0, 0);
+        spanAndLast(x, 18, 18);
+        x.holiday(18);
+        spanAndLast(x, 21, 21);
+        x.fact(0, 0, 5, 7);
+        spanAndLast(x, 21, 21);
+        x.fact(0, 0, 10, 10);
+        spanAndLast(x, 22, 22);
+        x.doubt(0, 1, 6);
+        spanAndLast(x, 21, 22);
+        x.doubt(0, 1, 0);
+        spanAndLast(x, 22, 22);
+        x.change(0, 20, 1, true);
+        spanAndLast(x, 25, 25);
+        x.place(0, 1);
+        spanAndLast(x, 25, 25);
+        Check.tell(x, 1, "term 22 days from done;stop child;");
+        spanAndLast(x, 26, 26);
+        x.fact(0, 7, 26, 26);
+        spanAndLast(x, -2, -2);
+        Check.due("the other one", x.last(1), 22);
+    }
+
+    private static void spanAndLast(RanOut x, int earliest, int latest) {
+        Check.due("the latest", x.span(0, 1), latest);
+        Check.due("the earliest", x.span(0, 0), earliest);
+        Check.due("the LAST DAY", x.last(0), latest);
     }
 }

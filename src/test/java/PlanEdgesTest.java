@@ -17,6 +17,7 @@ public final class PlanEdgesTest {
         worthLeastNumber();
         worthOfAll();
         worthLosing();
+        worthByOne();
         oneMost();
         oneNone();
         payDays();
@@ -29,9 +30,11 @@ public final class PlanEdgesTest {
         contestFewest();
         contestFirst();
         contestNumbers();
+        contestBehindToday();
         besideCounts();
         besideEverywhere();
         besideAtDay();
+        besideFourChanges();
         Check.leave("PlanEdgesTest");
     }
 
@@ -346,6 +349,22 @@ public final class PlanEdgesTest {
         worth(x, 21, 99, 1, 10, 0);
     }
 
+    private static void worthByOne() {
+        Check.sentence("WORTH: the greatest SUM, be it greater by 1 alone");
+        RanOut x = Check.with("term 20 days from done;renew ask;");
+        x.claim(0, 0, 500, 0, 0, 0);
+        x.claim(0, 0, 502, 0, 0, 0);
+        x.claim(0, 0, 1, 0, 0, 0);
+        x.act(0, 4, 10, 1, 0, -1, -1);
+        x.act(1, 4, 10, 9, 1, -1, -1);
+        x.act(2, 4, 10, 5, 2, -1, -1);
+        worth(x, 25, 5, 1, 500, 1);
+        worth(x, 25, 8, 5, 501, 6);
+        worth(x, 25, 9, 2, 502, 9);
+        worth(x, 25, 10, 3, 1002, 10);
+        worth(x, 25, 15, 7, 1003, 15);
+    }
+
     private static void oneMost() {
         Check.sentence("ONE: the single ACT by which most claims more are ALIVE at the day than without any; of several the least");
         RanOut x = claims("term 20 days from done;renew ask;", 6);
@@ -584,6 +603,36 @@ public final class PlanEdgesTest {
         contest(x, 30, 0, 0, -1, -1);
     }
 
+    private static void contestBehindToday() {
+        Check.sentence("CONTEST: .. FACTS taken away, also those of days gone");
+        RanOut x = asked();
+        x.today(12);
+        contest(x, 30, 1, 8, 36, -1);
+        contest(x, 30, 2, 12, 24, 36);
+        x.today(15);
+        contest(x, 30, 2, 12, 24, 36);
+        x.today(16);
+        contest(x, 30, 0, 0, -1, -1);
+        contest(x, 30, 1, 9999, 0, -1);
+        x.today(21);
+        x.act(0, 7, 21, 1, 0, 1, 2);
+        x.want(3, false);
+        contest(x, 31, 0, 1, -1, -1);
+        contest(x, 31, 2, 9999, 0, -1);
+        x = claims("term 20 days from done;renew ask;", 1);
+        x.want(0, true);
+        x.fact(0, 4, 5, 5);
+        x.fact(0, 4, 10, 10);
+        x.doubt(0, 0, 6);
+        x.doubt(0, 1, 6);
+        contest(x, 20, 2, 0, -1, -1);
+        contest(x, 21, 2, 9999, 0, 1);
+        x.today(22);
+        contest(x, 25, 1, 0, -1, -1);
+        contest(x, 25, 2, 9999, 0, 1);
+        contest(x, 26, 2, 9999, 1, -1);
+    }
+
     private static void besideCounts() {
         Check.sentence("BESIDE: if LAW a was in place of LAW b everywhere: how many claims ALIVE TODAY would be DEAD, and how many DEAD ones ALIVE");
         RanOut x = Check.with("term 20 days from done;");
@@ -653,5 +702,38 @@ public final class PlanEdgesTest {
         beside(x, 1, 0, 1, 0);
         x.place(0, 1);
         beside(x, 0, 1, 0, 1);
+    }
+
+    private static void besideFourChanges() {
+        Check.sentence("BESIDE: everywhere: by all four CHANGES");
+        RanOut x = Check.with("term 20 days from done;");
+        Check.tell(x, 1, "term 20 days from done;stop child;");
+        x.claim(5, 0, 0, 0, 0, 0);
+        x.fact(0, 0, 1, 20);
+        x.change(5, 3, 1, true);
+        x.change(5, 6, 0, true);
+        x.change(5, 9, 1, true);
+        x.change(5, 12, 0, true);
+        Check.due("six days STOPPED", x.last(0), 26);
+        x.today(21);
+        beside(x, 0, 1, 1, 0);
+        beside(x, 1, 0, 0, 0);
+        x.today(27);
+        beside(x, 0, 1, 0, 0);
+        beside(x, 1, 0, 0, 1);
+        x.today(41);
+        beside(x, 1, 0, 0, 0);
+        Check.sentence("BESIDE: LAWS 0 .. 7 both");
+        x = Check.with("term 20 days from done;");
+        Check.tell(x, 7, "term 10 days from done;");
+        x.claim(0, 0, 0, 0, 0, 0);
+        x.claim(1, 0, 0, 0, 0, 0);
+        x.place(1, 7);
+        x.today(15);
+        beside(x, 7, 0, 1, 0);
+        beside(x, 0, 7, 0, 1);
+        beside(x, 6, 7, 0, 1);
+        beside(x, 7, 6, 0, 0);
+        beside(x, 7, 7, 0, 0);
     }
 }

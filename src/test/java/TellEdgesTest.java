@@ -30,6 +30,10 @@ public final class TellEdgesTest {
         imageOfNothing();
         imageOfAll();
         imageAgain();
+        imageOfLastDays();
+        imageOfActs();
+        imageOfLateClaims();
+        imageOfClaims();
         imageWithoutTape();
         looks();
         Check.leave("TellEdgesTest");
@@ -480,6 +484,25 @@ public final class TellEdgesTest {
         x.doubt(2, 0, 0);
         x.image(false);
         Check.due("gone back there are six", x.doubt(0, 0, 6), false);
+        x = Check.with("term 20 days from done;stop ask;");
+        for (int c = 0; c < 5; c++) {
+            x.claim(0, 0, 0, 0, 0, 0);
+            for (int f = 0; f < c * 3 && f < 12; f++) {
+                x.fact(c, 4, 1 + f, 1 + f);
+            }
+        }
+        Check.due("claims of more FACTS than the first has", x.doubt(1, 0, 6), true);
+        Check.due("two of a claim", x.doubt(1, 1, 6), true);
+        Check.due("a third of it", x.doubt(1, 2, 6), false);
+        Check.due("the third in all", x.doubt(2, 0, 6), true);
+        Check.due("the fourth in all", x.doubt(3, 8, 6), true);
+        Check.due("the fifth in all", x.doubt(4, 10, 6), true);
+        Check.due("the sixth in all", x.doubt(4, 11, 6), true);
+        Check.due("the seventh, of a claim with one", x.doubt(2, 1, 6), false);
+        Check.due("the seventh, of a claim with one", x.doubt(3, 0, 6), false);
+        Check.due("in DOUBT they may be", x.doubt(2, 1, 5), true);
+        Check.due("two of a claim", x.doubt(2, 5, 5), true);
+        Check.due("a third of it", x.doubt(2, 4, 5), false);
     }
 
     private static void actEdges() {
@@ -640,6 +663,104 @@ public final class TellEdgesTest {
         Check.due("its ACTS", x.look(7), 0);
     }
 
+    private static void imageOfLastDays() {
+        Check.sentence("an image from which all goes on: what is asked behind it is as it was ahead of it");
+        RanOut x = Check.with("term 10 days from done;stop child;");
+        Check.tell(x, 1, "term 30 days from done;");
+        x.claim(0, 0, 5, 0, 0, 0);
+        x.fact(0, 0, 3, 4);
+        x.doubt(0, 0, 6);
+        x.image(true);
+        for (int again = 0; again < 4; again++) {
+            switch (again) {
+                case 0: x.place(0, 1); break;
+                case 1: x.change(0, 5, 1, true); break;
+                case 2: Check.tell(x, 0, "term 40 days from done;"); break;
+                default: x.fact(0, 7, 5, 5); break;
+            }
+            Check.due("another LAST DAY: " + again, x.last(0) != 12, true);
+            Check.due("another SPAN: " + again, x.span(0, 1) != 12, true);
+            x.image(false);
+            Check.due("its LAST DAY again", x.last(0), 12);
+            Check.due("its earliest again", x.span(0, 0), 10);
+            Check.due("its latest again", x.span(0, 1), 12);
+            Check.due("HANGS again", x.span(0, 2), 1);
+        }
+    }
+
+    private static void imageOfActs() {
+        Check.sentence("all that is and was told .. as it was: SORT, day, COST and CLAIMS of ACTS, and what is WANTED");
+        RanOut x = Check.with("term 20 days from done;renew ask;");
+        for (int c = 0; c < 4; c++) {
+            x.claim(0, 0, 10, 0, 0, 0);
+        }
+        x.want(1, true);
+        x.act(5, 4, 12, 7, 0, 1, 2);
+        x.image(true);
+        int[][] others = {{5, 12, 7, 0, 1, 2}, {4, 11, 7, 0, 1, 2}, {4, 12, 8, 0, 1, 2}, {4, 12, 7, 3, 1, 2}, {4, 12, 7, 0, 3, 2}, {4, 12, 7, 0, 1, -1}, {-1, 0, 0, 0, 0, 0}};
+        for (int[] o : others) {
+            x.act(5, o[0], o[1], o[2], o[3], o[4], o[5]);
+            x.want(1, false);
+            x.want(3, true);
+            x.image(false);
+            Check.due("the set", x.cheapest(32, 0), 32);
+            Check.due("its COST", x.cheapest(32, 1), 7);
+            Check.due("its day", x.cheapest(33, 0), -1);
+            Check.due("its CLAIMS", x.worth(32, 7, 1), 30);
+            x.fact(0, 7, 1, 1);
+            Check.due("one of them is the first", x.one(32, 1), 2);
+            x.fact(1, 7, 1, 1);
+            Check.due("one of them is the second", x.one(32, 1), 1);
+            x.fact(2, 7, 1, 1);
+            Check.due("one of them is the third", x.one(32, 1), 0);
+            x.image(false);
+        }
+    }
+
+    private static void imageOfLateClaims() {
+        Check.sentence("all that is and was told .. as it was: of the last claims too");
+        RanOut x = Check.with("term 20 days from done;stop child;");
+        for (int c = 0; c < 60; c++) {
+            x.claim(c % 6, c % 10, c, c, c + 1, c + 2);
+        }
+        for (int f = 0; f < 11; f++) {
+            x.fact(59, 0, 61 + f, 61 + f);
+        }
+        x.doubt(59, 10, 6);
+        x.want(59, true);
+        x.image(true);
+        x.doubt(59, 10, 0);
+        x.doubt(59, 9, 5);
+        x.fact(59, 0, 80, 80);
+        x.want(59, false);
+        x.want(58, true);
+        x.image(false);
+        Check.due("its FACTS", x.look(89), 11);
+        Check.due("CONTESTED", x.span(59, 2), 1 << 10);
+        Check.due("not in DOUBT", x.span(59, 0), 89);
+        Check.due("its LAST DAY", x.last(59), 90);
+        Check.due("WANTED", x.cheapest(91, 0), -1);
+        Check.due("it, not the one ahead, whose LAST DAY is 78", x.cheapest(90, 0), 0);
+        Check.due("one", x.look(6), 1);
+        Check.due("sixty still", x.claim(0, 0, 0, 0, 0, 0), -1);
+    }
+
+    private static void imageOfClaims() {
+        Check.sentence("all that is and was told .. as it was: PLACE, KIND, SUM and days of claims");
+        RanOut x = Check.with("long 11 days from done when kind=3 and sum=500 and place=2;long 12 days from known when kind=4 and sum=600 and place=3;"
+            + "long 13 days from due when kind=5 and sum=700 and place=4;");
+        x.claim(2, 3, 500, 10, 20, 30);
+        x.claim(3, 4, 600, 10, 20, 30);
+        x.claim(4, 5, 700, 10, 20, 30);
+        x.image(true);
+        x.claim(1, 1, 1, 1, 1, 1);
+        x.image(false);
+        Check.due("from DONE", x.last(0), 21);
+        Check.due("from KNOWN", x.last(1), 32);
+        Check.due("from DUE", x.last(2), 43);
+        Check.due("the SUM", x.look(4), 1800);
+    }
+
     private static void imageWithoutTape() {
         Check.sentence("THE IMAGE: all that is and was told but the TAPE and fault()");
         RanOut x = new RanOut();
@@ -707,5 +828,11 @@ public final class TellEdgesTest {
         x.fact(1, 7, 11, 11);
         Check.due("two, one on a day behind; one was DEAD", x.look(5), 2);
         Check.due("ALIVE", x.look(3), 2);
+        Check.sentence("3 .. ALIVE, 4 their SUM, 5 .. KEPT, 6 WANTED: each by itself");
+        x.want(0, true);
+        Check.due("one that is DEAD is WANTED", x.look(6), 1);
+        Check.due("ALIVE are others", x.look(3), 2);
+        Check.due("their SUM", x.look(4), 320);
+        Check.due("KEPT are others", x.look(5), 2);
     }
 }

@@ -11,6 +11,7 @@ public final class TextEdgesTest {
         emptyLaws();
         forms();
         missing();
+        slots();
         units();
         words();
         numbers();
@@ -19,12 +20,15 @@ public final class TextEdgesTest {
         wraps();
         divisions();
         binding();
+        truths();
         endOfText();
         partsByZero();
         termsOfZero();
         seventeenthLine();
         ninthOpen();
         firstByPlace();
+        behindFaults();
+        behindEnd();
         lawsOnDays();
         years();
         ranOfDayBefore();
@@ -274,6 +278,60 @@ public final class TextEdgesTest {
         faulty(WHEN + "1=1,2=2;", 1, 17);
     }
 
+    /** Every word, number and sign at every place of a text: what the grammar tells is fine, all else is FAULT 1 there. */
+    private static void slots() {
+        Check.sentence("1 what can't stand there: every token at every place");
+        String lines = " term long stop renew roll ";
+        String sorts = " child abroad war talks ask pay letter suit ";
+        String quantities = " 7 kind sum place year ran ";
+        slot("", lines);
+        slot("roll ; ", lines);
+        slot("roll ", " ; ");
+        slot("term ", " 7 ");
+        slot("long ", " 7 ");
+        slot("term 5 ", " days months years ");
+        slot("long 5 days ", " from ");
+        slot("term 5 days from ", " done known due ");
+        slot("term 5 days from done ", " when ; ");
+        slot("long 5 days from due ", " when ; ");
+        slot("stop ", sorts);
+        slot("renew ", sorts);
+        slot("stop war ", " when ; ");
+        slot("renew suit ", " when ; ");
+        String[] conditions = {"", "not ", "( ", "1 = 1 and ", "1 = 1 or ", "( 1 = 1 ) and ", "not not ( "};
+        for (String c : conditions) {
+            slot(WHEN + c, quantities + "not ( ");
+            slot(WHEN + c + "1 ", " + - * / < = > ");
+            slot(WHEN + c + "kind ", " + - * / < = > ");
+            slot(WHEN + c + "1 + ", quantities);
+            slot(WHEN + c + "1 - ", quantities);
+            slot(WHEN + c + "1 * ", quantities);
+            slot(WHEN + c + "1 / ", " 7 ");
+            slot(WHEN + c + "1 / 2 ", " + - * / < = > ");
+            slot(WHEN + c + "1 < ", quantities);
+            slot(WHEN + c + "1 = ", quantities);
+            slot(WHEN + c + "1 > ", quantities);
+            boolean open = c.contains("( ") && !c.contains(")");
+            slot(WHEN + c + "1 = 1 ", " + - * / and or " + (open ? ") " : "; "));
+            slot(WHEN + c + "1 = 1 / 2 ", " + - * / and or " + (open ? ") " : "; "));
+            slot(WHEN + c + "( 1 = 1 ) ", " and or " + (open ? ") " : "; "));
+        }
+    }
+
+    /** Of all tokens those of the list alone may stand behind the text; the end may not, but behind a whole line. */
+    private static void slot(String ahead, String may) {
+        String[] all = ("term long stop renew roll from when days months years done known due child abroad war talks ask pay letter suit "
+            + "or and not kind sum place year ran 7 ; + - * / ( ) < = > : terms 12345 ?").split(" ");
+        for (String token : all) {
+            RanOut x = new RanOut();
+            // What may stand there lets the reading go on to the sign behind it, which can never stand.
+            Check.tell(x, 0, ahead + token + " ?");
+            int place = may.contains(" " + token + " ") ? ahead.length() + token.length() + 1 : ahead.length();
+            Check.due("fault(0) of " + ahead + token + " ?", x.fault(0), 1);
+            Check.due("fault(1) of " + ahead + token + " ?", x.fault(1), place);
+        }
+    }
+
     private static void units() {
         Check.sentence("U = days | months | years (1, 30, 365 days)");
         int[] days = {1, 30, 365};
@@ -460,6 +518,28 @@ public final class TextEdgesTest {
         so("kind=9 and sum=9999 and place=5 and year=2 and ran=0", true);
     }
 
+    private static void truths() {
+        Check.sentence("C = E (< | = | >) E | not C | ( B ), under and, or and not");
+        String[] so = {"1<2", "2=2", "2>1", "not 1=2", "(1=1)", "1=1 and 2=2", "1=2 or 2=2"};
+        String[] not = {"2<1", "1=2", "1>2", "not 1=1", "(1=2)", "1=1 and 1=2", "1=2 or 2=1"};
+        for (int i = 0; i < so.length; i++) {
+            so(so[i], true);
+            so(not[i], false);
+            so("not (" + so[i] + ")", false);
+            so("not (" + not[i] + ")", true);
+            for (int j = 0; j < so.length; j++) {
+                so("(" + so[i] + ") and (" + so[j] + ")", true);
+                so("(" + so[i] + ") and (" + not[j] + ")", false);
+                so("(" + not[i] + ") and (" + so[j] + ")", false);
+                so("(" + not[i] + ") and (" + not[j] + ")", false);
+                so("(" + so[i] + ") or (" + so[j] + ")", true);
+                so("(" + so[i] + ") or (" + not[j] + ")", true);
+                so("(" + not[i] + ") or (" + so[j] + ")", true);
+                so("(" + not[i] + ") or (" + not[j] + ")", false);
+            }
+        }
+    }
+
     private static void endOfText() {
         Check.sentence("1 what can't stand there (the end: the text's length)");
         String whole = "term 1 days from done when not(kind+1*2/3<4)and 5=6 or 7>ran;";
@@ -564,6 +644,48 @@ public final class TextEdgesTest {
         faulty("roll;".repeat(17) + "term 0", 3, 80);
         faulty("stop 0;term 0 days", 1, 5);
         faulty("term 12345 term 0", 1, 5);
+    }
+
+    private static void behindFaults() {
+        Check.sentence("a FAULT leaves nothing behind: the next text is read as if it was the first");
+        String[] spoiled = {"((((((((?", "not not not not not not not not ?", "1=1 or 1=1 and not (1=1 or 1=1 and 1+2*?", "(((1=1?", "(((((((((", "1/0", "1=1 or ?", "12345"};
+        for (String s : spoiled) {
+            RanOut x = new RanOut();
+            x.claim(0, 0, 0, 0, 0, 0);
+            Check.due("spoiled", Check.tell(x, 0, "roll;" + WHEN + s), -1);
+            Check.due("eight open", Check.tell(x, 0, "term 9 days from done when not(not(not(not(1=2))));"), 1);
+            Check.due("no roll is left", x.last(0), -1);
+            Check.tell(x, 0, WHEN + s);
+            Check.due("a plain one", Check.tell(x, 0, "term 9 days from done when 1=1;"), 1);
+            Check.due("is so", x.last(0), 9);
+            Check.tell(x, 0, WHEN + s);
+            Check.due("one that is not so", Check.tell(x, 0, "term 9 days from done when 1=2;"), 1);
+            Check.due("is not so", x.last(0), -1);
+            Check.tell(x, 0, WHEN + s);
+            Check.due("a bracket too many", Check.tell(x, 0, WHEN + "1=1);"), -1);
+            Check.due("is one", x.fault(1), 17);
+            Check.tell(x, 0, WHEN + s);
+            Check.due("sixteen lines", Check.tell(x, 0, "roll;".repeat(16)), 16);
+        }
+    }
+
+    private static void behindEnd() {
+        Check.sentence("The TAPE has its first n bytes alone: what stood behind them is not read");
+        RanOut x = new RanOut();
+        Check.feed(x, "term 12345");
+        x.end(9);
+        x.text(0);
+        Check.due("a number of four digits, then the end", x.fault(1), 9);
+        Check.feed(x, "rolls");
+        x.end(4);
+        x.text(0);
+        Check.due("a word, then the end", x.fault(1), 4);
+        Check.feed(x, "roll;?");
+        x.end(5);
+        Check.due("a line, then the end", x.text(0), 1);
+        Check.feed(x, "roll;roll;roll;");
+        x.text(0);
+        Check.due("nothing is left of a longer text", Check.tell(x, 0, "roll;"), 1);
     }
 
     private static void lawsOnDays() {
